@@ -64,6 +64,8 @@ public final class PegWatchPromises {
         p38();
         p39();
         p40();
+        theGreatestChart();
+        theFullLog();
         refusalsChangeNothing();
         System.out.println(wrong == 0 ? "all answers are as due" : wrong + " answers are not as due");
         if (wrong != 0) {
@@ -659,6 +661,21 @@ public final class PegWatchPromises {
         due(25, "cuts nothing", x.patch(2), 9);
         due(25, "did not", x.count(0, true), 0);
         due(25, "as it was", x.patch(2), 1);
+        x.count(0, false);
+        x.miss(1);
+        due(25, "all knots and MISS: two to each side, cut by the edge", x.patch(1), 20);
+        x.watch();
+        x.run(1);
+        x.strike();
+        x.strike();
+        x.strike();
+        x.run(1);
+        x.miss(8000);
+        x.count(0, false);
+        due(25, "no knots: MISS alone", x.patch(1), 9);
+        x.count(0, true);
+        due(25, "no knots, counting", x.patch(1), 9);
+        x.sign(3, 0, 0);
         due(25, "row", x.count(2, true), UNKNOWN);
         due(25, "row", x.count(-1, true), UNKNOWN);
     }
@@ -1077,6 +1094,115 @@ public final class PegWatchPromises {
         due(40, "all", x.digest(), fold(7, 301, 9, -1, -1, -1, -1, -1, -1, 31, 3, 0, 0, 4, 5, 6, 2, 4, 4, 50, 0, 0, 0, 50, 0,
                 50, 0, 50, 1, 50, 0, 50, 0, 50, 0, 50, 0, 50, 0, 50, 0, 50, 0, 50, 0, 50, 0, 50, 0, 50, 0, -4, -3, 2, 1000, 12,
                 2, 1, 1, 0, -1, 0, 0, 1, -1, 0, 3, 60, 1, -1, 3, 0, 0, 0, patch, 2, 1, 3));
+    }
+
+    /** The last CELLS of 20 by 20, and steps from one edge to the other. */
+    private static void theGreatestChart() {
+        PegWatch x = new PegWatch();
+        x.chart(20, 20);
+        due(18, "the last row", x.sea(0, 19, 19, 19, 3), 20);
+        due(18, "the last cell", x.about(19, 19, 0), 3);
+        due(18, "beside it", x.about(19, 18, 0), 50);
+        due(19, "the last column", x.weed(19, 0, 19, 19, true), 20);
+        due(19, "the last cell", x.about(19, 19, 1), 1);
+        due(19, "beside it", x.about(18, 19, 1), 0);
+        due(22, "the last cell", x.start(19, 19, 0), 1);
+        due(29, "the last cell", x.has(0, 19, 19), 1);
+        x.miss(0);
+        x.stream(8000, 8000, 8000, 8000);
+        x.start(0, 0, 0);
+        for (int w = 0; w < 19; w++) {
+            x.run(watchAt(x, NONE, 0));
+        }
+        due(28, "step by step", x.has(19, 19, 19), 1);
+        due(30, "step by step", x.here(0), 1);
+        x.sign(3, 0, 0);
+        x.sign(0, 3, 3);
+        due(28, "the last cell stays", x.patch(21), 1);
+        int w = watchAt(x, 20, 12);
+        x.stream(-20000, -20000, -20000, -20000);
+        x.run(w);
+        due(28, "far away", x.patch(22), 0);
+        x.stream(0, 0, 0, 0);
+        x.start(19, 19, 0);
+        x.peg(w, 0, 20);
+        due(15, "from edge to edge", x.way(w, 0, 0, 0), -67872);
+        due(28, "eight and nine back", x.patch(22), 4);
+        due(29, "nine back", x.has(22, 10, 10), 1);
+        oneStepAcross();
+        sailAcross();
+    }
+
+    private static void oneStepAcross() {
+        for (int east = 0; east < 2; east++) {
+            PegWatch x = new PegWatch();
+            x.chart(20, 20);
+            x.miss(20000);
+            x.stream(east == 1 ? 20000 : -20000, east == 1 ? 20000 : -20000, 0, 0);
+            int w = watchAt(x, east == 1 ? 8 : 24, 12);
+            x.run(w);
+            x.start(east == 1 ? 0 : 19, 0, 0);
+            due(28, "96000 and 20000, 20000 more or less", x.patch(1), 6 * 4);
+            due(29, "the nearest", x.has(1, east == 1 ? 12 : 7, 0), 1);
+            due(29, "the farthest", x.has(1, east == 1 ? 17 : 2, 0), 1);
+            due(29, "behind the farthest", x.has(1, east == 1 ? 18 : 1, 0), 0);
+            due(29, "behind the nearest", x.has(1, east == 1 ? 11 : 8, 0), 0);
+            due(31, "seen back", x.was(0, east == 1 ? 0 : 19, 0), 1);
+            x.count(0, false);
+            due(28, "to all but the near edge", x.patch(1), 18 * 16);
+        }
+    }
+
+    private static void sailAcross() {
+        PegWatch x = new PegWatch();
+        x.chart(20, 20);
+        x.sea(19, 19, 19, 19, 0);
+        x.start(0, 19, 0);
+        due(36, "18 east", x.sights(0, 19, 8, 8, 96, 0, 1), 18);
+        x.start(19, 0, 0);
+        due(36, "18 north", x.sights(19, 0, 0, 8, 96, 0, 1), 18);
+        x.sea(19, 19, 19, 19, 1);
+        x.sea(0, 0, 0, 0, 0);
+        x.start(19, 0, 0);
+        due(36, "18 west", x.sights(19, 0, 24, 8, 96, 0, 1), 18);
+        x.start(0, 19, 0);
+        due(36, "18 south", x.sights(0, 19, 16, 8, 96, 0, 1), 18);
+        due(36, "far off", x.sights(0, 19, 0, 12, 96, 0, 8), 0);
+        x.sea(0, 9, 0, 9, 0);
+        due(36, "ten to land between", x.sights(0, 19, 16, 8, 96, 23, 0), 0);
+        x.sea(0, 0, 0, 0, 1);
+        due(38, "to the south", x.course(8, 96, 0, 1), 16);
+    }
+
+    /** 24 WATCHES and 16 SIGNS: every call that goes along THE LOG. */
+    private static void theFullLog() {
+        PegWatch x = new PegWatch();
+        x.miss(0);
+        for (int w = 0; w < 24; w++) {
+            x.run(watchAt(x, w % 2 == 0 ? 0 : 16, 1));
+            x.set(w, 0, w % 6);
+        }
+        for (int i = 0; i < 16; i++) {
+            x.sign(4, 0, 17 - i);
+        }
+        due(28, "there and back", x.patch(40), 1);
+        due(30, "there and back", x.here(40), 1);
+        due(30, "there and back", x.here(23), 1);
+        due(31, "one up", x.was(23, 0, 1), 1);
+        due(32, "not empty", x.blamed(), STATE);
+        due(34, "by any", x.fits(0, 0), 475);
+        due(34, "by a wrong glass, or by one who falls short on the way back", x.fits(0, 2), 18 * 25 + 3 * 4);
+        x.strike();
+        x.sign(4, 7, 7);
+        due(32, "the last", x.blamed(), 1);
+        due(33, "the last", x.blame(0), 39);
+        x.strike();
+        x.strike();
+        x.sign(4, 7, 7);
+        x.sign(4, 6, 6);
+        due(32, "the last two", x.blamed(), 1);
+        due(33, "the last two", x.blame(0), 3939);
+        due(36, "empty", x.sights(0, 0, 0, 1, 1, 0, 0), STATE);
     }
 
     /** Every refusal, and then the digest as it was. */
