@@ -1172,6 +1172,14 @@ public final class PegWatchPromises {
         due(36, "ten to land between", x.sights(0, 19, 16, 8, 96, 23, 0), 0);
         x.sea(0, 0, 0, 0, 1);
         due(38, "to the south", x.course(8, 96, 0, 1), 16);
+        x.sea(0, 9, 0, 9, 1);
+        x.sea(0, 2, 0, 2, 0);
+        x.start(19, 10, 0);
+        due(36, "the day breaks at the west edge", x.sights(19, 10, 24, 4, 96, 12, 8), 37);
+        x.sea(0, 2, 0, 2, 1);
+        x.sea(19, 2, 19, 2, 0);
+        x.start(0, 10, 0);
+        due(36, "the day breaks at the east edge", x.sights(0, 10, 8, 4, 96, 12, 8), 37);
     }
 
     /** 24 WATCHES and 16 SIGNS: every call that goes along THE LOG. */
