@@ -931,7 +931,7 @@ public final class PegWatch {
 
         /** Becomes all CELLS of a chart that lie from west to east, from south to north of some CELL of another. */
         void becomeReached(Patch from, int west, int east, int south, int north, Chart chart) {
-            clear();
+            Arrays.fill(bits, 0);
             int first = Math.max(west, 1 - chart.width);
             int last = Math.min(east, chart.width - 1);
             if (first > last) {
