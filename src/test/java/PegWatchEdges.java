@@ -253,6 +253,7 @@ public final class PegWatchEdges {
         due("one, round", toldBy(101, 31), 0);
         due("16", toldBy(116, 4), 20);
         due("16, round", toldBy(116, 20), 4);
+        due("99", faultOf(99, 4), 0);
         due("k 0", faultOf(100, 4), 0);
         due("k 17", faultOf(117, 4), 0);
 
@@ -261,6 +262,7 @@ public final class PegWatchEdges {
         due("one, round", toldBy(201, 0), 31);
         due("16", toldBy(216, 20), 4);
         due("16, round", toldBy(216, 4), 20);
+        due("199", faultOf(199, 4), 0);
         due("k 0", faultOf(200, 4), 0);
         due("k 17", faultOf(217, 4), 0);
 
@@ -996,6 +998,7 @@ public final class PegWatchEdges {
 
         says(TERMS, "if there are none, pairs of ROWS that COUNT, without the COUNTING of both.");
         pairs();
+        mostOfAllPairs();
         manyPairs();
     }
 
@@ -1032,6 +1035,66 @@ public final class PegWatchEdges {
         y.sign(4, 6, 6);
         due("the last two", y.blamed(), 1);
         due("the last two", y.blame(0), 3939);
+    }
+
+    /**
+     * A LOG of 40: 19 times a WATCH that takes her one CELL to each side (two if it does not COUNT) and a SIGN that
+     * lets even y stay; then twice a SIGN that she is at 4 or more. Two ROWS that are not too near each other help.
+     */
+    private static void mostOfAllPairs() {
+        PegWatch x = still(4, 20, 0, 0);
+        x.miss(8000);
+        for (int y = 0; y < 20; y += 2) {
+            x.sea(0, y, 3, y, 10);
+        }
+        for (int i = 0; i < 19; i++) {
+            x.run(watchInTheWind(x));
+            x.sign(0, 10, 10);
+        }
+        x.sign(4, 4, 19);
+        x.sign(4, 4, 19);
+        List<Integer> all = new ArrayList<>();
+        for (int lesser = 0; lesser < 40; lesser++) {
+            for (int other = lesser + 1; other < 40; other++) {
+                if (isFourReached(lesser, other)) {
+                    all.add(100 * (lesser + 1) + other);
+                }
+            }
+        }
+        due("how many pairs", x.blamed(), all.size());
+        due("two of three and more of all that there may be", all.size() > 520 ? 1 : 0, 1);
+        for (int i = 0; i < 18; i++) {
+            int at = i * (all.size() - 1) / 17;
+            due("the " + at + "th pair", x.blame(at), all.get(at));
+        }
+        due("no more", x.blame(all.size()), NONE);
+    }
+
+    /** Along y alone, for the LOG above without two of its ROWS. */
+    private static boolean isFourReached(int not, int nor) {
+        boolean[] at = new boolean[20];
+        at[0] = true;
+        for (int row = 0; row < 40; row++) {
+            boolean counts = row != not && row != nor;
+            boolean isWatch = row < 38 && row % 2 == 0;
+            boolean[] next = new boolean[20];
+            for (int y = 0; y < 20; y++) {
+                for (int to = 0; at[y] && to < 20; to++) {
+                    if (isWatch) {
+                        next[to] |= Math.abs(to - y) <= (counts ? 1 : 2);
+                    } else if (to == y) {
+                        next[to] = !counts || (row < 38 ? y % 2 == 0 : y >= 4);
+                    }
+                }
+            }
+            at = next;
+        }
+        for (boolean is : at) {
+            if (is) {
+                return true;
+            }
+        }
+        return false;
     }
 
     private static void manyPairs() {
@@ -1808,7 +1871,10 @@ public final class PegWatchEdges {
         due("all", y.weed(0, 0, 19, 9, true), 200);
         due("DEPTHS stay", y.about(5, 5, 0), 50);
         y.sea(5, 5, 5, 5, 0);
-        due("on land too", y.about(5, 5, 1), 1);
+        due("it stays on land", y.about(5, 5, 1), 1);
+        y.weed(5, 5, 5, 5, false);
+        y.weed(5, 5, 5, 5, true);
+        due("it comes on land", y.about(5, 5, 1), 1);
 
         says(19, "UNKNOWN, OUTSIDE, as sea().");
         corners(y, UNKNOWN, (c, y1, x2, y2) -> y.weed(c, y1, x2, y2, false));
@@ -2511,8 +2577,8 @@ public final class PegWatchEdges {
         }
         x.stream(-20000, -19999, 19998, 20000);
         x.miss(17);
-        x.start(18, 1, 1);
-        h = fold(h, -20000, -19999, 19998, 20000, 17, 18, 1, 1);
+        x.start(18, 1, 20);
+        h = fold(h, -20000, -19999, 19998, 20000, 17, 18, 1, 20);
         x.fit(0, 0, 0);
         x.fits(0, 0);
         x.fits(0, 0);
@@ -2527,7 +2593,7 @@ public final class PegWatchEdges {
             x.count(i, i % 3 != 0);
             h = fold(h, -1, i % 3 == 0 ? 3 : 1, i % 3 == 0 ? 0 : i, 0, i % 3 == 0 ? 0 : 1);
         }
-        due("of nearly all", x.digest(), fold(h, 8, 3, 1, 2));
+        due("of nearly all", x.digest(), fold(h, 79, 3, 1, 2));
     }
 
     private static void the512thCall() {
